@@ -430,7 +430,6 @@ public final class SlabCutter {
         }
         trial.copy(slab);
         trial.turnFlaws(slab);
-        needCarvedStay();
         settle();
         return layout.laid;
     }
@@ -512,7 +511,7 @@ public final class SlabCutter {
             throw new IllegalStateException();
         }
         past.takeBack(slab);
-        layout.lay(slab);
+        layAnew();
         return past.count;
     }
 
@@ -641,7 +640,12 @@ public final class SlabCutter {
     private void settle() {
         past.remember(slab);
         slab.copy(trial);
+        layAnew();
+    }
+
+    private void layAnew() {
         layout.lay(slab);
+        layout.listLetters(slab);
     }
 
     private boolean carvedStay() {
@@ -1017,7 +1021,6 @@ public final class SlabCutter {
                 rowOf.put(word, NONE);
                 columnOf.put(word, NONE);
             }
-            listLetters(slab);
         }
 
         private void layWords(Slab slab, int behind) {
@@ -1078,7 +1081,8 @@ public final class SlabCutter {
             }
         }
 
-        private void listLetters(Slab slab) {
+        /** Apart from laying, as what would be is asked for words alone. */
+        void listLetters(Slab slab) {
             letters = 0;
             for (int word = 0; word < laid; word++) {
                 int length = slab.lengths.at(word);

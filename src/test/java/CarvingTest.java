@@ -45,6 +45,11 @@ public final class CarvingTest {
         due.is("18 of what is left", x.timeFor(300), 47);
         x.carve(300);
         due.is("18 of nothing", x.timeFor(5), 0);
+        Due.load(x, "slab 10 4;chisel 10 4;verse abc;");
+        x.carve(2);
+        due.is("18 of fewer letters than there were", x.timeFor(Integer.MAX_VALUE), 5);
+        due.is("20 of fewer letters than there were", x.sharpenings(), 0);
+        due.is("17 of fewer letters than there were", x.strokesLeft(), 5);
         due.failsArgument("18 below", () -> x.timeFor(-1));
         due.failsArgument("18 least", () -> x.timeFor(Integer.MIN_VALUE));
     }

@@ -3,6 +3,7 @@ public final class ChangeTest {
     private static final Due due = new Due("ChangeTest");
 
     public static void main(String[] args) {
+        whatIsAskedDisturbsNoChange();
         promise36AddPart();
         promise36AddPartWrong();
         promise36AddPartLimits();
@@ -18,6 +19,55 @@ public final class ChangeTest {
         promise42CutRows();
         promise42CutRowsCarved();
         due.end();
+    }
+
+    /** The same change on two slabs; ahead of it one is asked what would be, and refuses texts and changes. */
+    private static void notDisturbed(String what, java.util.function.ToIntFunction<SlabCutter> change) {
+        SlabCutter plain = Due.loaded("slab 8 6;flaw 7 3,0 5,3 1;gap 1;chisel 9 3;verse abc ab;name 5 5;date xy;");
+        SlabCutter asked = Due.loaded("slab 8 6;flaw 7 3,0 5,3 1;gap 1;chisel 9 3;verse abc ab;name 5 5;date xy;");
+        due.is("asked: an error", Due.load(asked, "slab 4 3;flaw 0 0;gap 3;verse a b;verse c;x"), SlabCutter.PARSE_ERROR);
+        ask(asked);
+        due.is("the answer of " + what, change.applyAsInt(asked), change.applyAsInt(plain));
+        due.is("the slab behind " + what, Due.slab(asked), Due.slab(plain));
+        for (int property = 0; property < 14; property++) {
+            due.is("property " + property + " behind " + what, asked.property(property), plain.property(property));
+        }
+    }
+
+    private static void ask(SlabCutter x) {
+        Due.type(x, "ab cd ;");
+        due.failsArgument("asked: no good part", () -> x.addPart(0));
+        due.failsIndex("asked: no such part", () -> x.dropPart(3));
+        x.laidWith(3);
+        x.laidIf(0, 0);
+        x.laidTurned();
+        x.bestPlace(1);
+        x.laidBut(0);
+        x.laidWithout();
+        // The last one leaves the most behind: another text.
+        Due.load(x, "slab 4 3;flaw 0 0;gap 3;verse a b;verse c;x");
+    }
+
+    private static void whatIsAskedDisturbsNoChange() {
+        notDisturbed("addPart", x -> Due.addPart(x, 1, "z"));
+        notDisturbed("dropPart", x -> x.dropPart(0));
+        notDisturbed("movePart", x -> x.movePart(0, 2));
+        notDisturbed("setFlaw", x -> x.setFlaw(1, 1, true) ? 1 : 0);
+        notDisturbed("setGap", x -> x.setGap(0));
+        notDisturbed("turnSlab", x -> x.turnSlab());
+        notDisturbed("cutRows", x -> x.cutRows(2, true));
+        notDisturbed("carve", x -> x.carve(4));
+        notDisturbed("sharpen", x -> x.sharpen());
+        notDisturbed("setChisel", x -> x.setChisel(5, 5));
+        notDisturbed("keep", x -> x.keep(0));
+        notDisturbed("undo", x -> x.undo());
+        notDisturbed("laidIf", x -> x.laidIf(0, 2));
+        notDisturbed("worstFlaw", x -> x.worstFlaw());
+        notDisturbed("laidWithout", x -> x.laidWithout());
+        notDisturbed("laidWith", x -> x.laidWith(0));
+        notDisturbed("laidTurned", x -> x.laidTurned());
+        notDisturbed("laidBut", x -> x.laidBut(1));
+        notDisturbed("bestPlace", x -> x.bestPlace(2));
     }
 
     private static void promise36AddPart() {
@@ -290,22 +340,14 @@ public final class ChangeTest {
         SlabCutter y = Due.loaded("slab 4 12;flaw 0 0,3 11;");
         due.is("42 ten", y.cutRows(10, true), 0);
         due.is("42 slab", Due.slab(y), "....|...#");
-        due.is("42 the rows that are cut off are gone for touching too",
-                touchedBehindTheCut().word(0, 4), 1);
-    }
-
-    private static SlabCutter touchedBehindTheCut() {
-        SlabCutter x = Due.loaded("slab 4 3;flaw 0 2,0 0,1 0,2 0,3 0;verse a;");
-        x.cutRows(1, false);
-        due.is("42 flaws above it", x.word(0, 4), 2);
-        x.undo();
-        x.setFlaw(0, 0, false);
-        x.setFlaw(1, 0, false);
-        x.setFlaw(0, 1, true);
-        due.is("42 a flaw below it", x.word(0, 4), 2);
-        x.setFlaw(0, 1, false);
-        x.cutRows(1, false);
-        return x;
+        SlabCutter z = Due.loaded("slab 4 4;flaw 0 2,1 3;gap 0;verse abcd ab;");
+        due.is("42 a flaw below it", z.word(1, 4), 2 + 3);
+        z.cutRows(2, false);
+        due.is("42 gone with the rows", z.word(1, 4), 1 + 3);
+        due.is("42 gone with the rows", z.touching() + z.dear(), 0);
+        z.undo();
+        z.cutRows(1, false);
+        due.is("42 not cut off", z.word(1, 4), 2 + 3);
     }
 
     private static void promise42CutRowsCarved() {

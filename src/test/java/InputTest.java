@@ -8,6 +8,7 @@ public final class InputTest {
         promise03Truncate();
         promise04Load();
         promise04LoadChangesNothingWithAnError();
+        promise04LoadForgetsTheTextAhead();
         promise05And06Slab();
         promise05And06Flaw();
         promise05And06GapAndChisel();
@@ -121,6 +122,33 @@ public final class InputTest {
         due.is("4 output", Due.output(x, 2), "ab");
         due.is("4 slab", Due.slab(x), "Ab......|.#......|7.......");
         due.is("4 buffer", x.append(0, 0, 0, 0, 0), 20);
+    }
+
+    private static void promise04LoadForgetsTheTextAhead() {
+        String full = "slab 24 12;gap 2;chisel 5 5;flaw 0 0,1 1,2 2,3 3,4 4,5 5,6 6,7 7,8 8,9 9,0 11,0 10,0 9,0 8,0 7,0 6"
+                + ",0 5,0 4,0 3,0 2,0 1;verse abc";
+        SlabCutter x = new SlabCutter();
+        for (int i = 0; i < 3; i++) {
+            due.is("4 with gap, chisel and 21 flaws again", Due.load(x, full + ";"), 1);
+            due.is("4 and with an error", Due.load(x, full), SlabCutter.PARSE_ERROR);
+        }
+        due.is("4 nothing of the texts ahead", Due.load(x, "slab 24 12;"), 0);
+        int[] properties = {24, 12, 0, 0, 0, 0, 0, 0, 0, 100, 100, 10, 0, 0};
+        for (int what = 0; what < properties.length; what++) {
+            due.is("4 property " + what, x.property(what), properties[what]);
+        }
+        // What was cut off or read already is behind the end of the text.
+        Due.type(x, "slab 4 2;");
+        x.truncate(8);
+        due.is("4 cut off", x.load(), SlabCutter.PARSE_ERROR);
+        due.is("5 cut off", x.errorCode(), 1);
+        due.is("6 cut off", x.errorPosition(), 8);
+        Due.type(x, "slab 44 2;");
+        x.truncate(6);
+        due.is("4 cut off in the number", x.load(), SlabCutter.PARSE_ERROR);
+        due.is("6 cut off in the number", x.errorPosition(), 6);
+        due.is("4 the bytes of the text ahead", x.load(), SlabCutter.PARSE_ERROR);
+        due.is("6 the bytes of the text ahead", x.errorPosition(), 0);
     }
 
     /** A text and what is due of it; the position is of the first ~, which is taken out. */

@@ -10,6 +10,7 @@ public final class ViewTest {
         promise07Property();
         promise08Part();
         promise09Word();
+        promise09WordThatWasLaid();
         promise10Letter();
         promise11Cell();
         promise12WordAt();
@@ -59,6 +60,7 @@ public final class ViewTest {
         slab("slab 9 2;flaw 2 0;name ab;", "..#ab....|.........");
         slab("slab 9 2;flaw 3 0;name a b;", "..a#b....|.........");
         slab("slab 6 2;flaw 1 0,2 0,3 0;name a;", "a###..|......");
+        slab("slab 6 2;flaw 0 0,2 0;name a;", "#.#a..|......");
         // All words of a row are moved together, each row by itself.
         slab("slab 8 2;name a b cde fgh;", "a.b.cde.|..fgh...");
         slab("slab 9 3;name abc d efgh i jklm;", "..abc.d..|.efgh.i..|..jklm...");
@@ -149,6 +151,20 @@ public final class ViewTest {
         wordIs(Due.loaded("slab 4 3;flaw 0 1;gap 0;verse abcd;"), 0, 0, 4, 0, 0, 2 + 3 + 5 + 2);
     }
 
+    private static void promise09WordThatWasLaid() {
+        SlabCutter x = Due.loaded("slab 4 4;verse abcd abcd abcd;");
+        x.cutRows(2, false);
+        wordIs(x, 2, 0, 4, -1, -1, 0, 0);
+        due.is("7 letters", x.property(7), 8);
+        due.is("8 laid", x.part(0, 3), 2);
+        x.carve(8);
+        wordIs(x, 1, 0, 4, 1, 0, 11, 4);
+        wordIs(x, 2, 0, 4, -1, -1, 0, 0);
+        x.dropPart(Due.addPart(x, SlabCutter.NAME, "z"));
+        due.failsIndex("9 a word that was there", () -> x.word(3, 0));
+        due.failsIndex("8 a part that was there", () -> x.part(1, 0));
+    }
+
     private static void promise10Letter() {
         SlabCutter x = Due.loaded("slab 4 2;verse abz abc 0919;");
         due.is("10", x.letter(0, 0), 97);
@@ -161,6 +177,8 @@ public final class ViewTest {
         due.failsIndex("10 word below", () -> x.letter(-1, 0));
         due.failsIndex("10 greatest", () -> x.letter(0, Integer.MAX_VALUE));
         due.failsIndex("10 word greatest", () -> x.letter(Integer.MAX_VALUE, 0));
+        x.dropPart(0);
+        due.failsIndex("10 a word that was there", () -> x.letter(0, 0));
     }
 
     private static void promise11Cell() {

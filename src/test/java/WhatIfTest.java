@@ -51,6 +51,7 @@ public final class WhatIfTest {
 
     private static void promise24WorstFlaw() {
         due.is("24 without flaws", Due.loaded("slab 4 2;verse a;").worstFlaw(), -1);
+        due.is("24 first column", Due.loaded("slab 4 2;flaw 0 0,3 1;verse abcd;").worstFlaw(), 0);
         due.is("24 of one", Due.loaded("slab 4 2;flaw 3 1;verse a;").worstFlaw(), 103);
         SlabCutter x = Due.loaded("slab 5 3;flaw 4 0,1 1,2 2,3 2;verse abcd abcde abcd;");
         // Without (4,0) as before; without (1,1) abcde fits into row 1; without the others it does not.
@@ -154,6 +155,12 @@ public final class WhatIfTest {
         // Left, right and below touch; across a corner and two columns away do not.
         due.is("31 sides", Due.loaded("slab 8 3;flaw 0 0,4 0,1 1,2 1,0 1,4 1,6 0;verse abc;").touching(), 4);
         due.is("31 above", Due.loaded("slab 4 3;flaw 0 0,3 0,3 2;verse abcd;").touching(), 3);
+        // Only the very next cell is beside it.
+        due.is("31 right of it", Due.loaded("slab 6 2;flaw 1 0;verse a;").touching(), 1);
+        due.is("31 left of it", Due.loaded("slab 6 2;flaw 0 0;verse a;").touching(), 1);
+        due.is("31 two to the right", Due.loaded("slab 6 2;flaw 2 0;verse a;").touching(), 0);
+        due.is("31 two to the left", Due.loaded("slab 6 2;flaw 0 0,1 0;verse a;").touching(), 1);
+        due.is("31 two below", Due.loaded("slab 6 3;flaw 0 2;verse a;").touching(), 0);
         // One flaw with two letters counts once; the first column is not beside the last of the row above.
         due.is("31 once", Due.loaded("slab 5 3;flaw 1 0,1 2,0 2;verse a bc;").touching(), 1);
         due.is("31 no way round", Due.loaded("slab 4 3;flaw 0 1,0 0;verse bcd;").touching(), 1);
