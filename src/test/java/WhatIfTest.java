@@ -57,6 +57,8 @@ public final class WhatIfTest {
         // Without (4,0) as before; without (1,1) abcde fits into row 1; without the others it does not.
         due.is("24", x.worstFlaw(), 101);
         due.is("24 changes nothing", Due.slab(x), "abcd#|.#...|..##.");
+        due.is("24 behind a text with an error", Due.load(x, "slab 4 2;flaw 0 0;x"), SlabCutter.PARSE_ERROR);
+        due.is("24 is asked of the slab at hand", x.worstFlaw(), 101);
         SlabCutter y = Due.loaded("slab 4 2;flaw 3 1,0 1,2 0,1 0;verse a;");
         due.is("24 least number of several", y.worstFlaw(), 1);
         String parts = ";gap 3;verse a;verse a;verse abcd;";
