@@ -1,3 +1,5 @@
+import java.util.NoSuchElementException;
+
 /** What the tests share: answers against what is due, texts into the buffer, the output as a text. */
 final class Due {
     interface Call {
@@ -5,11 +7,21 @@ final class Due {
     }
 
     private final String test;
+    private String where = "";
     private int passed = 0;
     private int failed = 0;
 
     Due(String test) {
         this.test = test;
+    }
+
+    /** Stands ahead of each failure from now on. */
+    void where(String told) {
+        where = told + ": ";
+    }
+
+    int checks() {
+        return passed + failed;
     }
 
     void is(String what, long got, long want) {
@@ -55,6 +67,36 @@ final class Due {
         fails(what, IndexOutOfBoundsException.class, call);
     }
 
+    void failsElement(String what, Call call) {
+        fails(what, NoSuchElementException.class, call);
+    }
+
+    /** A text with an error of this code; its position is that of the ~, which is taken out. */
+    void parseError(int code, String marked) {
+        int position = marked.indexOf('~');
+        SlabCutter x = new SlabCutter();
+        is("4 " + marked, load(x, marked.replace("~", "")), SlabCutter.PARSE_ERROR);
+        is("5 " + marked, x.errorCode(), code);
+        is("6 " + marked, x.errorPosition(), position);
+        is("undo " + marked, x.undoCount(), 0);
+        is("5 again " + marked, load(x, "slab 4 2;") * 1000 + x.errorCode(), 0);
+        is("6 again " + marked, x.errorPosition(), SlabCutter.NONE);
+    }
+
+    /** A text without an error; the error ahead of it must be forgotten. */
+    void parses(String text, int laid) {
+        SlabCutter x = new SlabCutter();
+        load(x, "?");
+        is("4 " + text, load(x, text), laid);
+        is("5 " + text, x.errorCode(), 0);
+        is("6 " + text, x.errorPosition(), SlabCutter.NONE);
+    }
+
+    /** The whole slab that a text leads to, its rows with a stroke between them. */
+    void slabOf(String text, String rows) {
+        is(text, slab(loaded(text)), rows);
+    }
+
     private void report(boolean good, String line) {
         if (good) {
             passed++;
@@ -62,7 +104,7 @@ final class Due {
         }
         failed++;
         if (failed <= 50) {
-            System.out.println(test + ": " + line);
+            System.out.println(test + ": " + where + line);
         }
     }
 
@@ -110,6 +152,15 @@ final class Due {
     static int addPart(SlabCutter cutter, int kind, String words) {
         type(cutter, words);
         return cutter.addPart(kind);
+    }
+
+    static int flaw(SlabCutter cutter, int column, int row, boolean flawed) {
+        return cutter.setFlaw(column, row, flawed) ? 1 : 0;
+    }
+
+    static int truncated(SlabCutter cutter, int length) {
+        cutter.truncate(length);
+        return length;
     }
 
     static String output(SlabCutter cutter, int length) {

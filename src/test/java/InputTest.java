@@ -151,24 +151,12 @@ public final class InputTest {
         due.is("6 the bytes of the text ahead", x.errorPosition(), 0);
     }
 
-    /** A text and what is due of it; the position is of the first ~, which is taken out. */
     private static void error(int code, String marked) {
-        int position = marked.indexOf('~');
-        SlabCutter x = new SlabCutter();
-        due.is("4 " + marked, Due.load(x, marked.replace("~", "")), SlabCutter.PARSE_ERROR);
-        due.is("5 " + marked, x.errorCode(), code);
-        due.is("6 " + marked, x.errorPosition(), position);
-        due.is("undo " + marked, x.undoCount(), 0);
-        due.is("5 again " + marked, Due.load(x, "slab 4 2;") * 1000 + x.errorCode(), 0);
-        due.is("6 again " + marked, x.errorPosition(), SlabCutter.NONE);
+        due.parseError(code, marked);
     }
 
     private static void good(String text, int laid) {
-        SlabCutter x = new SlabCutter();
-        Due.load(x, "?");
-        due.is("4 " + text, Due.load(x, text), laid);
-        due.is("5 " + text, x.errorCode(), 0);
-        due.is("6 " + text, x.errorPosition(), SlabCutter.NONE);
+        due.parses(text, laid);
     }
 
     private static void promise05And06Slab() {

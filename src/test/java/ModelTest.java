@@ -11,7 +11,9 @@ import java.util.Random;
 public final class ModelTest {
     private static final Due due = new Due("ModelTest");
     private static final int RUNS = 1500;
-    private static final int CALLS = 500;
+    private static final int CALLS = 512;
+    // What a step and the look in the end may take.
+    private static final int LAST_CALLS = 100;
 
     private final Random random;
     private final SlabCutter cutter = new SlabCutter();
@@ -49,10 +51,11 @@ public final class ModelTest {
             text(goodText());
             call("load");
         }
-        while (same && calls < CALLS - 40) {
+        while (same && calls < CALLS - LAST_CALLS) {
             step();
         }
         view();
+        due.holds("at most " + CALLS + " calls", calls <= CALLS);
     }
 
     private void step() throws ReflectiveOperationException {
@@ -86,7 +89,7 @@ public final class ModelTest {
         }
         if (random.nextInt(4) == 0) {
             call("writeRow", random.nextInt(model.property(1)));
-            for (int i = random.nextInt(6); i < model.property(0) && calls < CALLS - 60; i += 5) {
+            for (int i = random.nextInt(6); i < model.property(0) && calls < CALLS - LAST_CALLS; i += 5) {
                 call("outputByte", i);
             }
         }

@@ -46,7 +46,7 @@ public final class OutputTest {
         due.is("51 the output stays", Due.output(y, 8), "def gh 1");
         StringBuilder words = new StringBuilder();
         StringBuilder want = new StringBuilder();
-        for (int word = 0; word < 35; word++) {
+        for (int word = 0; word < 30; word++) {
             words.append(word == 0 ? "" : " ").append("abcdefghijkl");
             want.append(word == 0 ? "" : " ").append(word < 2 ? "abcdefghijkl" : "[abcdefghijkl]");
         }

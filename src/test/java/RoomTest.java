@@ -29,8 +29,8 @@ public final class RoomTest {
         for (int i = 0; i < 4; i++) {
             load(x);
         }
-        changes(x, 30);
-        questions(x, 6);
+        changes(x, 20);
+        questions(x, 5);
         long more = allocated() - ready;
         if (counts) {
             System.out.println("RoomTest: new " + made + " bytes, at its fullest " + (ready - before) + ", further " + more);

@@ -1,3 +1,5 @@
+import java.util.function.Consumer;
+
 /** Promises 46 to 49: slots and undo. */
 public final class UndoTest {
     private static final Due due = new Due("UndoTest");
@@ -112,11 +114,18 @@ public final class UndoTest {
         due.is("48 parse error", x.errorCode(), 1);
     }
 
-    /** Makes the call; it must be the one more to undo, and undoing it must bring everything back. */
-    private static void counted(String what, SlabCutter x, Due.Call call) {
+    /** Makes the call on an object of its own; it must be one more to undo, and undoing it must bring everything back. */
+    private static void counted(String what, Consumer<SlabCutter> call) {
+        SlabCutter x = Due.loaded("slab 6 5;flaw 5 2;gap 1;chisel 9 3;verse abc;date 5 5;");
+        x.keep(0);
+        x.turnSlab();
+        counted(what, x, call);
+    }
+
+    private static void counted(String what, SlabCutter x, Consumer<SlabCutter> call) {
         String before = Due.slab(x) + states(x);
         int count = x.undoCount();
-        call.run();
+        call.accept(x);
         due.is("49 counts " + what, x.undoCount(), count + 1);
         due.is("48 undoes " + what, x.undo(), count);
         due.is("48 all back after " + what, Due.slab(x) + states(x), before);
@@ -134,32 +143,26 @@ public final class UndoTest {
     }
 
     private static void promise48And49EachCall() {
-        SlabCutter x = Due.loaded("slab 6 5;flaw 5 2;gap 1;chisel 9 3;verse abc;date 5 5;");
-        x.keep(0);
-        x.turnSlab();
-        counted("load", x, () -> Due.load(x, "slab 4 2;name q;"));
-        counted("addPart", x, () -> Due.addPart(x, SlabCutter.NAME, "xyz"));
-        counted("dropPart", x, () -> x.dropPart(0));
-        counted("movePart", x, () -> x.movePart(0, 1));
-        counted("movePart to its place", x, () -> x.movePart(1, 1));
-        counted("setFlaw", x, () -> flaw(x, 0, 0, true));
-        counted("setFlaw as it is", x, () -> flaw(x, 0, 0, false));
-        counted("setGap", x, () -> x.setGap(0));
-        counted("setGap as it is", x, () -> x.setGap(1));
-        counted("turnSlab", x, x::turnSlab);
-        counted("cutRows", x, () -> x.cutRows(1, true));
-        counted("cutRows", x, () -> x.cutRows(3, false));
-        counted("carve", x, () -> x.carve(4));
-        counted("sharpen", x, x::sharpen);
-        counted("setChisel", x, () -> x.setChisel(8, 8));
-        counted("setChisel as it is", x, () -> x.setChisel(9, 3));
-        counted("restore", x, () -> x.restore(0));
-        x.carve(300);
-        counted("carve of nothing", x, () -> x.carve(1));
-    }
-
-    private static int flaw(SlabCutter x, int column, int row, boolean flawed) {
-        return x.setFlaw(column, row, flawed) ? 1 : 0;
+        counted("load", x -> Due.load(x, "slab 4 2;name q;"));
+        counted("addPart", x -> Due.addPart(x, SlabCutter.NAME, "xyz"));
+        counted("dropPart", x -> x.dropPart(0));
+        counted("movePart", x -> x.movePart(0, 1));
+        counted("movePart to its place", x -> x.movePart(1, 1));
+        counted("setFlaw", x -> x.setFlaw(0, 0, true));
+        counted("setFlaw as it is", x -> x.setFlaw(0, 0, false));
+        counted("setGap", x -> x.setGap(0));
+        counted("setGap as it is", x -> x.setGap(1));
+        counted("turnSlab", SlabCutter::turnSlab);
+        counted("cutRows", x -> x.cutRows(1, true));
+        counted("cutRows", x -> x.cutRows(3, false));
+        counted("carve", x -> x.carve(4));
+        counted("sharpen", SlabCutter::sharpen);
+        counted("setChisel", x -> x.setChisel(8, 8));
+        counted("setChisel as it is", x -> x.setChisel(9, 3));
+        counted("restore", x -> x.restore(0));
+        SlabCutter carved = Due.loaded("slab 6 5;verse abc;date 5 5;");
+        carved.carve(300);
+        counted("carve of nothing", carved, x -> x.carve(1));
     }
 
     private static void promise49UndoCount() {

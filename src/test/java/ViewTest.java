@@ -22,7 +22,7 @@ public final class ViewTest {
     }
 
     private static void slab(String text, String rows) {
-        due.is("laying of " + text, Due.slab(Due.loaded(text)), rows);
+        due.slabOf(text, rows);
     }
 
     private static void laying() {
