@@ -121,6 +121,15 @@ final class Due {
 
     /** Puts a text behind what is in the input buffer. */
     static void type(SlabCutter cutter, String text) {
+        int length = appendAll(cutter, text);
+        int behind = text.length();
+        if (behind > 0) {
+            cutter.truncate(length - (behind + 19) / 20 * 20 + behind);
+        }
+    }
+
+    /** By as few calls as can be: what is missing in the last 20 bytes is x. Answers the length of the buffer. */
+    static int appendAll(SlabCutter cutter, String text) {
         int behind = text.length();
         int length = 0;
         for (int at = 0; at < behind; at += 20) {
@@ -131,9 +140,7 @@ final class Due {
             }
             length = cutter.append(fours[0], fours[1], fours[2], fours[3], fours[4]);
         }
-        if (behind > 0) {
-            cutter.truncate(length - (behind + 19) / 20 * 20 + behind);
-        }
+        return length;
     }
 
     static int load(SlabCutter cutter, String text) {

@@ -10,8 +10,6 @@ final class InputSentences extends SentenceGroup {
 
     @Override
     void tell() {
-        doc.in("What it is");
-        calls();
         doc.in("Terms");
         constants();
         text();
@@ -40,16 +38,6 @@ final class InputSentences extends SentenceGroup {
 
     private void property(String text, int what, int want) {
         due.is("property " + what + " of " + text, Due.loaded(text).property(what), want);
-    }
-
-    private void calls() {
-        doc.says("An object is used for at most 512 calls after it has been made", () -> {
-            SlabCutter x = new SlabCutter();
-            for (int call = 1; call <= 511; call++) {
-                x.sharpen();
-            }
-            due.is("the 512th call", x.property(13), 511);
-        });
     }
 
     private void constants() {

@@ -7,6 +7,7 @@ import java.nio.file.Path;
 public final class SentenceTest {
     public static void main(String[] args) throws IOException {
         Sentences doc = new Sentences(Files.readString(Path.of(args[0]), StandardCharsets.UTF_8));
+        new FrameSentences(doc).tell();
         new InputSentences(doc).tell();
         new LayingSentences(doc).tell();
         new CarvingSentences(doc).tell();

@@ -16,11 +16,16 @@ final class Sentences {
             String text = part.substring(line).replaceAll("```\\w*", " ").replaceAll("\\s+", " ").trim();
             texts.put(heading, text);
             tested.put(heading, new BitSet());
-            if (heading.startsWith("Promise")) {
-                // The signature: FaceTest looks at it.
-                tested.get(heading).set(0, text.indexOf('`', 1) + 1);
-            }
+            tested.get(heading).set(0, signaturesOf(heading, text));
         }
+    }
+
+    /** How much of a section FaceTest looks at. */
+    private static int signaturesOf(String heading, String text) {
+        if (heading.startsWith("Promise")) {
+            return text.indexOf('`', 1) + 1;
+        }
+        return heading.equals("The public face") ? text.length() : 0;
     }
 
     /** The section, by its heading, in which the next sentences stand. */
@@ -32,12 +37,7 @@ final class Sentences {
 
     /** A sentence of the section, or a part of one, and what must hold by it. */
     void says(String sentence, Runnable test) {
-        due.where(section + ", \"" + sentence + "\"");
-        int at = texts.getOrDefault(section, "").indexOf(sentence);
-        due.holds("the document says so: it", at >= 0);
-        if (at >= 0) {
-            tested.get(section).set(at, at + sentence.length());
-        }
+        find(sentence);
         int checks = due.checks();
         try {
             test.run();
@@ -47,12 +47,24 @@ final class Sentences {
         due.holds("that something was looked at: it", due.checks() > checks);
     }
 
+    /** A sentence that promises nothing, so that there is nothing to look at. */
+    void leavesOpen(String sentence) {
+        find(sentence);
+    }
+
+    private void find(String sentence) {
+        due.where(section + ", \"" + sentence + "\"");
+        int at = texts.getOrDefault(section, "").indexOf(sentence);
+        due.holds("the document says so: it", at >= 0);
+        if (at >= 0) {
+            tested.get(section).set(at, at + sentence.length());
+        }
+    }
+
     void end() {
         for (String heading : texts.keySet()) {
-            if (heading.equals("Terms") || heading.startsWith("Promise")) {
-                due.where(heading);
-                due.is("what no test was told for", untested(texts.get(heading), tested.get(heading)), "");
-            }
+            due.where(heading);
+            due.is("what no test was told for", untested(texts.get(heading), tested.get(heading)), "");
         }
         due.where("");
         due.end();
